@@ -551,6 +551,7 @@ public final class StreamDesk {
             } else {
                 player.arrive(longNumber, stamp, rate, now, delay);
             }
+            // Only one that WAITS can be due now; behind the others this finds nothing.
             player.playDue(now);
             return true;
         }

@@ -3,6 +3,7 @@ public final class DataTest {
     public static void main(String[] args) {
         fieldsOfAPlainPacket();
         fieldsOfAFullPacket();
+        wordsWithoutPAndX();
         faultOfShortness();
         faultOfVersion();
         faultOfWords();
@@ -40,6 +41,16 @@ public final class DataTest {
         d.alter(31, 4);
         Check.due("all is filling", d.data(8), 0);
         Check.due("the place stays", d.data(7), 28);
+    }
+
+    private static void wordsWithoutPAndX() {
+        StreamDesk d = Wire.desk();
+        Wire.words(d, 0x8F000001L, 2, 3);
+        for (int word = 0; word < 15; word++) {
+            d.type(0x0000FFFF, 4);
+        }
+        d.type(0, 2);
+        fields("all of C", d, 0, 0, 0, 1, 2, 3, 15, 72, 2, 0);
     }
 
     private static void faultOfShortness() {

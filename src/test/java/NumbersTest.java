@@ -12,9 +12,11 @@ public final class NumbersTest {
         oddOnes();
         setAnew();
         jitterOfOrdinaryStamps();
+        jitterIsRoundedDown();
         jitterThatWraps();
         jitterUsesTheSortsRate();
         senderRefuses();
+        lostIsCut();
         playingIsCounted();
         Check.end();
     }
@@ -160,6 +162,16 @@ public final class NumbersTest {
         sender("TWICE counts", d, JITTER, 45);
     }
 
+    private static void jitterIsRoundedDown() {
+        StreamDesk d = Wire.believed(1, 1);
+        Wire.take(d, 1, 2, 8);
+        sender("8", d, JITTER, 8);
+        Wire.take(d, 1, 3, 8);
+        sender("8 and 8 by 16 less", d, JITTER, 7);
+        Wire.take(d, 1, 4, 8);
+        sender("7 and 8 are below 16", d, JITTER, 7);
+    }
+
     private static void jitterThatWraps() {
         StreamDesk d = Wire.believed(1, 1);
         Wire.take(d, 1, 2, Integer.MIN_VALUE);
@@ -200,6 +212,27 @@ public final class NumbersTest {
         Check.due("sender(1, 0)", d.sender(1, 0), Wire.BAD_SENDER);
         Check.due("sender(-1, 0)", d.sender(-1, 0), Wire.BAD_SENDER);
         Check.due("sender(6, 0)", d.sender(6, 0), Wire.BAD_SENDER);
+    }
+
+    /** More calls than are promised, as no 512 of them come so far. */
+    private static void lostIsCut() {
+        StreamDesk d = Wire.believed(1, 0);
+        int q = 0;
+        for (int k = 0; k < 2900; k++) {
+            q = q + 2999 & 65535;
+            Wire.take(d, 1, q, 0);
+        }
+        sender("the most", d, DUE, 2900 * 2999 + 1);
+        sender("the most", d, LOST, 8388607);
+        StreamDesk e = Wire.believed(1, 1);
+        for (int k = 0; k < 8388607; k++) {
+            e.take();
+        }
+        sender("just above the least", e, LOST, -8388607);
+        e.take();
+        e.take();
+        sender("the least", e, GOT, 8388610);
+        sender("the least", e, LOST, -8388608);
     }
 
     private static void playingIsCounted() {

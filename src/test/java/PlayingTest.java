@@ -13,6 +13,7 @@ public final class PlayingTest {
         timesWrap();
         lateFarTwice();
         farBeginsAnewWhenNothingWaits();
+        forgottenByOneThatBegins();
         leastNumberIsPlayedFirst();
         lostOnesThatWaited();
         playedAtOnce();
@@ -179,6 +180,22 @@ public final class PlayingTest {
         Check.due("nothing LOST", e.sender(0, 11), 0);
         Wire.take(e, 1, 44, 5007);
         Check.due("the STAMP begins anew, too", e.time(0, 44), 157);
+    }
+
+    private static void forgottenByOneThatBegins() {
+        StreamDesk d = Wire.believed(1, 10);
+        for (int q = 11; q <= 41; q++) {
+            Wire.take(d, 1, q, 0);
+        }
+        Check.due("32 wait", d.sender(0, 15), 32);
+        Wire.take(d, 1, 20000, 0);
+        Wire.take(d, 1, 20001, 0);
+        Check.due("one waits", d.sender(0, 15), 1);
+        for (int n = 20002; n < 20033; n++) {
+            Check.due("none waits for " + n, d.time(0, n), StreamDesk.NONE);
+        }
+        Check.due("one to play", d.pass(1000), 1);
+        Check.due("NEXT", d.next(0), 20002);
     }
 
     private static void leastNumberIsPlayedFirst() {

@@ -249,6 +249,7 @@ public final class ReportsTest {
     private static void leavingKeepsTheRest() {
         StreamDesk d = Wire.believed(11, 5);
         hear("11 leaves", d, 2, Wire.part(0, 201, 2), 1, Wire.part(1, 203, 2), 11);
+        Check.due("it does not wait", d.time(0, 5), StreamDesk.NONE);
         Check.due("nothing to play", d.pass(100), 0);
         Check.due("NEXT stays", d.next(0), 5);
         Check.due("GOT stays", d.sender(0, 6), 1);
@@ -305,6 +306,8 @@ public final class ReportsTest {
         heard("that yet", d, 7, 21, 22, 23, 24, 25, 78);
         hear("not counted", d, 1, Wire.part(0, 201, 8), 79, 5, 1, 2, 3, 4, 5);
         heard("and that", d, 7, 21, 22, 23, 24, 25, 78);
+        hear("the second alone", d, 1, Wire.part(2, 201, 14), 80, 6, 1, 2, 3, 4, 5, 5, 0x02000003L, 4, 5, 6, 7);
+        heard("the second", d, 2, 3, 4, 5, 6, 7, 80);
     }
 
     private static void heardIsOfTheOwn() {
