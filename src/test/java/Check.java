@@ -2,15 +2,23 @@
 final class Check {
     private static int wrong = 0;
     private static int asked = 0;
+    private static String heldAgainst = "";
 
     private Check() {
+    }
+
+    /** From here on answers are held against that sentence, which must stand in the document. */
+    static void promise(int number, String sentence) {
+        heldAgainst = "";
+        holds("the document says, of promise " + number + ", \"" + sentence + "\"", Document.says(number, sentence));
+        heldAgainst = "promise " + number + ", \"" + sentence + "\": ";
     }
 
     static void due(String call, long got, long want) {
         asked++;
         if (got != want) {
             wrong++;
-            System.out.println(call + " answered " + got + ", due is " + want);
+            System.out.println(heldAgainst + call + " answered " + got + ", due is " + want);
         }
     }
 

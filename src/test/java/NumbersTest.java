@@ -16,7 +16,6 @@ public final class NumbersTest {
         jitterThatWraps();
         jitterUsesTheSortsRate();
         senderRefuses();
-        lostIsCut();
         playingIsCounted();
         Check.end();
     }
@@ -212,27 +211,6 @@ public final class NumbersTest {
         Check.due("sender(1, 0)", d.sender(1, 0), Wire.BAD_SENDER);
         Check.due("sender(-1, 0)", d.sender(-1, 0), Wire.BAD_SENDER);
         Check.due("sender(6, 0)", d.sender(6, 0), Wire.BAD_SENDER);
-    }
-
-    /** More calls than are promised, as no 512 of them come so far. */
-    private static void lostIsCut() {
-        StreamDesk d = Wire.believed(1, 0);
-        int q = 0;
-        for (int k = 0; k < 2900; k++) {
-            q = q + 2999 & 65535;
-            Wire.take(d, 1, q, 0);
-        }
-        sender("the most", d, DUE, 2900 * 2999 + 1);
-        sender("the most", d, LOST, 8388607);
-        StreamDesk e = Wire.believed(1, 1);
-        for (int k = 0; k < 8388607; k++) {
-            e.take();
-        }
-        sender("just above the least", e, LOST, -8388607);
-        e.take();
-        e.take();
-        sender("the least", e, GOT, 8388610);
-        sender("the least", e, LOST, -8388608);
     }
 
     private static void playingIsCounted() {

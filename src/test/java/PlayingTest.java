@@ -4,7 +4,6 @@ public final class PlayingTest {
 
     public static void main(String[] args) {
         passMovesNow();
-        passStopsAtTheMost();
         delayIsKept();
         delayIsThatOfTheBegin();
         nextGoesOn();
@@ -44,21 +43,6 @@ public final class PlayingTest {
         Check.due("the first is due", e.pass(1), 1);
         Check.due("two LOST and one PLAYED", e.pass(10), 3);
         Check.due("NOW", e.count(2), 110);
-    }
-
-    private static void passStopsAtTheMost() {
-        StreamDesk d = new StreamDesk();
-        // More calls than are promised, as no 512 of them come so far.
-        for (int k = 0; k < 9999; k++) {
-            d.pass(10000);
-        }
-        Check.due("up to the most", d.pass(9999), 0);
-        Check.due("one more than it", d.pass(2), StreamDesk.FULL);
-        Check.due("NOW stays", d.count(2), 99999999);
-        Check.due("the most", d.pass(1), 0);
-        Check.due("above it", d.pass(1), StreamDesk.FULL);
-        Check.due("BAD ahead of FULL", d.pass(10001), StreamDesk.BAD);
-        Check.due("none", d.pass(0), 0);
     }
 
     private static void delayIsKept() {
