@@ -163,13 +163,8 @@ final class Desk {
         return words(values).hear();
     }
 
-    /** The head of a PART that has so many words in all. */
-    static long part(int count, int sort, int words) {
-        return (128L + count) << 24 | (long) sort << 16 | words - 1;
-    }
-
     void leaves(int sender) {
-        hearWords(part(0, 201, 2), 0, part(1, 203, 2), sender).is(2);
+        hearWords(Wire.part(0, 201, 2), 0, Wire.part(1, 203, 2), sender).is(2);
     }
 
     void eventIs(int i, int kind, int sender, long number, int now) {

@@ -7,6 +7,7 @@ public final class EdgesOfDataTest {
     public static void main(String[] args) {
         fewerThanTwelveBytes();
         version();
+        bitsOfTheFirstByte();
         oneWord();
         allFifteenWords();
         theHeadOfX();
@@ -88,6 +89,20 @@ public final class EdgesOfDataTest {
         fault(2, data(192, 12));
         fault(2, data(127, 300));
         sound(data(128, 12));
+    }
+
+    private static void bitsOfTheFirstByte() {
+        Check.promise(8, "bit 5 P, bit 4 X, the lower four C;");
+        int[][] firstAndPlace = {{128, 12, 0}, {128 + P, 12, 1}, {128 + X, 16, 0}, {128 + 1, 16, 0}, {128 + 2, 20, 0},
+            {128 + 4, 28, 0}, {128 + 8, 44, 0}, {128 + P + X + 15, 76, 1}};
+        for (int[] one : firstAndPlace) {
+            Desk d = Desk.rated();
+            d.bytes(data(one[0], 77, 1));
+            d.data(0).is(0);
+            d.data(6).is(one[0] & 15);
+            d.data(7).is(one[1]);
+            d.data(8).is(77 - one[1] - one[2]);
+        }
     }
 
     private static void oneWord() {

@@ -33,6 +33,7 @@ public final class EdgesOfPlayingTest {
         timeOfNoSender();
         timeInsideAndOutsideOfWhatWaits();
         timeIsNotAboveNow();
+        playedAtOnceBehindOneThatWaits();
         timeRoundsDown();
         timeOfTheLeastRate();
         timeWraps();
@@ -41,6 +42,7 @@ public final class EdgesOfPlayingTest {
         lateBehindPlayed();
         far();
         farWhenNothingWaits();
+        farthestWhenNothingWaits();
         notFarWhenNothingWaits();
         twice();
         thirtyTwoWait();
@@ -48,8 +50,10 @@ public final class EdgesOfPlayingTest {
         lostOnesThatWaited();
         theLeastLongNumberFirst();
         setAnewForgets();
+        setAnewForgetsTheMostThatWait();
         setAnewBeginsBelow();
         forgottenByLeaving();
+        leavingForgetsTheMostThatWait();
         noEvents();
         whatAnEventIsAsked();
         sixtyFourEvents();
@@ -311,6 +315,20 @@ public final class EdgesOfPlayingTest {
         d.eventIs(0, PLAYED, 0, 12, 101);
     }
 
+    private static void playedAtOnceBehindOneThatWaits() {
+        Check.promise(7, "As NOW goes on, and behind each that WAITS:");
+        Desk d = Desk.believed(9, 10);
+        d.send(9, 12, 5).is(1);
+        d.send(9, 11, -100).is(1);
+        // TIME 0 is not above NOW: 10, whose TIME is, is LOST; 12 waits on.
+        d.eventIs(1, LOST, 0, 10, 0);
+        d.eventIs(0, PLAYED, 0, 11, 0);
+        d.sender(0, WAITING).is(1);
+        d.next(0).is(12);
+        d.pass(104).is(0);
+        d.pass(1).is(1);
+    }
+
     private static void timeRoundsDown() {
         Check.promise(13, TIME);
         Desk d = Desk.rated();
@@ -427,6 +445,18 @@ public final class EdgesOfPlayingTest {
         d.time(0, 44).is(201);
     }
 
+    private static void farthestWhenNothingWaits() {
+        Check.promise(14, FAR_OR_BEGINS);
+        for (int above : new int[] {33, 64, 2998}) {
+            Desk d = Desk.believed(9, 10);
+            d.pass(100).is(1);
+            d.send(9, 11 + above, 0).is(1);
+            d.eventIs(0, BEGINS, 0, 11 + above, 100);
+            d.next(0).is(11 + above);
+            d.sender(0, 13).is(0);
+        }
+    }
+
     private static void notFarWhenNothingWaits() {
         Check.promise(14, FAR_OR_BEGINS);
         Desk d = Desk.believed(9, 10);
@@ -532,6 +562,30 @@ public final class EdgesOfPlayingTest {
         d.senderIs(0, PLAYED_COUNT, 1, 0);
     }
 
+    /** A desk with the most that can WAIT: 10 to 41. */
+    private static Desk withTheMostThatWait() {
+        Desk d = Desk.believed(9, 10);
+        for (int q = 11; q < 42; q++) {
+            d.send(9, q, 0).is(1);
+        }
+        d.sender(0, WAITING).is(32);
+        return d;
+    }
+
+    private static void setAnewForgetsTheMostThatWait() {
+        Check.promise(13, BEGIN);
+        Desk d = withTheMostThatWait();
+        d.send(9, 20000, 0).is(0);
+        d.send(9, 20001, 0).is(1);
+        d.sender(0, WAITING).is(1);
+        for (int n = 20002; n < 20034; n++) {
+            d.time(0, n).is(NONE);
+        }
+        d.pass(5000).is(1);
+        d.senderIs(0, PLAYED_COUNT, 1, 0, 0, 0, 0, 0);
+        d.next(0).is(20002);
+    }
+
     private static void setAnewBeginsBelow() {
         Check.promise(12, "BEGINS: what waits is forgotten, NEXT is its LONG NUMBER");
         Desk d = Desk.believed(9, 65535);
@@ -556,6 +610,19 @@ public final class EdgesOfPlayingTest {
         d.pass(1000).is(0);
         d.next(0).is(10);
         d.count(3).is(2);
+    }
+
+    private static void leavingForgetsTheMostThatWait() {
+        Check.promise(16, "LEAVE (once; what waits is forgotten; they stay as they are else)");
+        Desk d = withTheMostThatWait();
+        d.leaves(9);
+        d.sender(0, WAITING).is(0);
+        for (int n = 10; n < 42; n++) {
+            d.time(0, n).is(NONE);
+        }
+        d.pass(5000).is(0);
+        d.next(0).is(10);
+        d.senderIs(0, PLAYED_COUNT, 0, 0, 0, 0, 0, 0);
     }
 
     private static void noEvents() {

@@ -46,12 +46,14 @@ public final class EdgesOfReportsTest {
         sortsOfParts();
         fillings();
         theFirstFaultOfAReport();
+        partsOneBehindTheOther();
         faultsChangeNothing();
         theFewestAndTheMostParts();
         theMostBlocksHeard();
         leavesOnceAndTwice();
         leavesTwiceInOnePart();
         leavesAsCounted();
+        theHeadOfAPartIsNoSender();
         theMostThatLeave();
         leavesWithWait();
         staysAsItIsElse();
@@ -251,7 +253,7 @@ public final class EdgesOfReportsTest {
     }
 
     private static void hearClock(Desk d, int sender, long clock) {
-        d.hearWords(Desk.part(0, 200, 7), sender, clock >>> 32, clock, 5, 6, 7).is(1);
+        d.hearWords(Wire.part(0, 200, 7), sender, clock >>> 32, clock, 5, 6, 7).is(1);
     }
 
     private static void lastAndSinceWithoutAReport() {
@@ -301,7 +303,7 @@ public final class EdgesOfReportsTest {
         d.wordIs(6, 0x33445566L);
         d.wordIs(7, 0);
         // Two of them in one REPORT: the latter is the latest.
-        d.hearWords(Desk.part(0, 200, 7), 9, 1, 0, 0, 0, 0, Desk.part(0, 200, 7), 9, 2, 0, 0, 0, 0).is(2);
+        d.hearWords(Wire.part(0, 200, 7), 9, 1, 0, 0, 0, 0, Wire.part(0, 200, 7), 9, 2, 0, 0, 0, 0).is(2);
         d.report(0);
         d.wordIs(6, 0x00020000L);
     }
@@ -327,7 +329,7 @@ public final class EdgesOfReportsTest {
         // That of another one, and one in a 201, are not its own.
         d.pass(10);
         hearClock(d, 8, -1);
-        d.hearWords(Desk.part(0, 201, 7), 9, -1, -1, -1, -1, -1).is(1);
+        d.hearWords(Wire.part(0, 201, 7), 9, -1, -1, -1, -1, -1).is(1);
         d.report(0).is(32);
         d.wordIs(6, 0);
         d.wordIs(7, 0);
@@ -361,12 +363,12 @@ public final class EdgesOfReportsTest {
         Check.promise(16, "12 the first PART is no 200, 201, or has bit 5 (a filling);");
         Desk d = new Desk();
         for (int sort : new int[] {0, 72, 199, 202, 203, 204, 255}) {
-            d.hearWords(Desk.part(0, sort, 2), 0).is(-22);
+            d.hearWords(Wire.part(0, sort, 2), 0).is(-22);
         }
-        d.hearWords(Desk.part(32, 201, 2), 4).is(-22);
-        d.hearWords(Desk.part(32, 200, 7), 0, 0, 0, 0, 0, 4).is(-22);
-        d.hearWords(Desk.part(0, 201, 2), 0).is(1);
-        d.hearWords(Desk.part(0, 200, 7), 0, 0, 0, 0, 0, 0).is(1);
+        d.hearWords(Wire.part(32, 201, 2), 4).is(-22);
+        d.hearWords(Wire.part(32, 200, 7), 0, 0, 0, 0, 0, 4).is(-22);
+        d.hearWords(Wire.part(0, 201, 2), 0).is(1);
+        d.hearWords(Wire.part(0, 200, 7), 0, 0, 0, 0, 0, 0).is(1);
     }
 
     private static void versionOfAPart() {
@@ -382,12 +384,12 @@ public final class EdgesOfReportsTest {
     private static void endOfAPart() {
         Check.promise(16, "14 it ends behind the end;");
         Desk d = new Desk();
-        d.hearWords(Desk.part(0, 201, 2), 0).is(1);
-        d.hearWords(Desk.part(0, 201, 3), 0).is(-24);
-        d.hearWords(Desk.part(0, 201, 65536), 0).is(-24);
-        d.hearWords(OWN_PART, 0, Desk.part(0, 202, 1)).is(2);
-        d.hearWords(OWN_PART, 0, Desk.part(0, 202, 2)).is(-24);
-        d.hearWords(OWN_PART, 0, Desk.part(0, 202, 257)).is(-24);
+        d.hearWords(Wire.part(0, 201, 2), 0).is(1);
+        d.hearWords(Wire.part(0, 201, 3), 0).is(-24);
+        d.hearWords(Wire.part(0, 201, 65536), 0).is(-24);
+        d.hearWords(OWN_PART, 0, Wire.part(0, 202, 1)).is(2);
+        d.hearWords(OWN_PART, 0, Wire.part(0, 202, 2)).is(-24);
+        d.hearWords(OWN_PART, 0, Wire.part(0, 202, 257)).is(-24);
         d.bytes(java.util.Arrays.copyOf(new int[] {128, 201, 0, 75}, 300));
         d.hear().is(-24);
         d.alter(3, 74);
@@ -403,10 +405,10 @@ public final class EdgesOfReportsTest {
     /** A PART of that sort and count is heard with so many words, and has FAULT 15 with one less. */
     private static void shortest(int count, int sort, int many) {
         Desk d = new Desk();
-        d.hearWords(words(many, Desk.part(count, sort, many))).is(1);
-        d.hearWords(words(many + 1, Desk.part(count, sort, many + 1))).is(1);
+        d.hearWords(words(many, Wire.part(count, sort, many))).is(1);
+        d.hearWords(words(many + 1, Wire.part(count, sort, many + 1))).is(1);
         // What comes behind is another PART, so that it is the length that is told which counts.
-        d.words(words(many - 1, Desk.part(count, sort, many - 1)));
+        d.words(words(many - 1, Wire.part(count, sort, many - 1)));
         d.type(OWN_PART, 4);
         d.type(0, 4);
         d.hear().is(-25);
@@ -417,7 +419,7 @@ public final class EdgesOfReportsTest {
         shortest(0, 200, 7);
         shortest(1, 200, 13);
         shortest(11, 200, 73);
-        new Desk().hearWords(words(75, Desk.part(12, 200, 75))).is(-25);
+        new Desk().hearWords(words(75, Wire.part(12, 200, 75))).is(-25);
     }
 
     private static void shortOf201() {
@@ -426,11 +428,11 @@ public final class EdgesOfReportsTest {
         shortest(1, 201, 8);
         shortest(11, 201, 68);
         Desk d = new Desk();
-        d.hearWords(words(74, Desk.part(12, 201, 74))).is(1);
-        d.hearWords(words(75, Desk.part(12, 201, 75))).is(1);
-        d.hearWords(words(73, Desk.part(12, 201, 73))).is(-25);
-        d.hearWords(words(75, Desk.part(13, 201, 75))).is(-25);
-        d.hearWords(words(75, Desk.part(31, 201, 75))).is(-25);
+        d.hearWords(words(74, Wire.part(12, 201, 74))).is(1);
+        d.hearWords(words(75, Wire.part(12, 201, 75))).is(1);
+        d.hearWords(words(73, Wire.part(12, 201, 73))).is(-25);
+        d.hearWords(words(75, Wire.part(13, 201, 75))).is(-25);
+        d.hearWords(words(75, Wire.part(31, 201, 75))).is(-25);
     }
 
     private static void hearBehind(Desk d, int answer, long... part) {
@@ -444,46 +446,46 @@ public final class EdgesOfReportsTest {
     private static void shortOf203() {
         Check.promise(16, "203: as many SENDERS as counted, perhaps more.");
         Desk d = new Desk();
-        hearBehind(d, 2, Desk.part(0, 203, 1));
-        hearBehind(d, 2, Desk.part(0, 203, 2), 7);
-        hearBehind(d, -25, Desk.part(1, 203, 1));
-        hearBehind(d, 2, Desk.part(1, 203, 2), 7);
-        hearBehind(d, 2, Desk.part(1, 203, 3), 7, 8);
-        hearBehind(d, -25, Desk.part(2, 203, 2), 7);
-        hearBehind(d, -25, words(31, Desk.part(31, 203, 31)));
-        hearBehind(d, 2, words(32, Desk.part(31, 203, 32)));
+        hearBehind(d, 2, Wire.part(0, 203, 1));
+        hearBehind(d, 2, Wire.part(0, 203, 2), 7);
+        hearBehind(d, -25, Wire.part(1, 203, 1));
+        hearBehind(d, 2, Wire.part(1, 203, 2), 7);
+        hearBehind(d, 2, Wire.part(1, 203, 3), 7, 8);
+        hearBehind(d, -25, Wire.part(2, 203, 2), 7);
+        hearBehind(d, -25, words(31, Wire.part(31, 203, 31)));
+        hearBehind(d, 2, words(32, Wire.part(31, 203, 32)));
     }
 
     private static void countsOf202() {
         Check.promise(16, "202: chunks, not looked into.");
         Desk d = new Desk();
-        hearBehind(d, 2, Desk.part(0, 202, 1));
-        hearBehind(d, 2, Desk.part(31, 202, 1));
-        hearBehind(d, 2, Desk.part(1, 202, 3), -1, -1);
+        hearBehind(d, 2, Wire.part(0, 202, 1));
+        hearBehind(d, 2, Wire.part(31, 202, 1));
+        hearBehind(d, 2, Wire.part(1, 202, 3), -1, -1);
     }
 
     private static void sortsOfParts() {
         Check.promise(16, "16 a sort that is none of these");
         Desk d = new Desk();
         for (int sort : new int[] {0, 72, 199, 204, 205, 255}) {
-            hearBehind(d, -26, Desk.part(0, sort, 1));
-            hearBehind(d, -26, Desk.part(31, sort, 2), 7);
+            hearBehind(d, -26, Wire.part(0, sort, 1));
+            hearBehind(d, -26, Wire.part(31, sort, 2), 7);
         }
-        hearBehind(d, 2, Desk.part(0, 200, 7), 0, 0, 0, 0, 0, 0);
-        hearBehind(d, 2, Desk.part(0, 201, 2), 0);
-        hearBehind(d, 2, Desk.part(0, 202, 1));
-        hearBehind(d, 2, Desk.part(0, 203, 1));
+        hearBehind(d, 2, Wire.part(0, 200, 7), 0, 0, 0, 0, 0, 0);
+        hearBehind(d, 2, Wire.part(0, 201, 2), 0);
+        hearBehind(d, 2, Wire.part(0, 202, 1));
+        hearBehind(d, 2, Wire.part(0, 203, 1));
     }
 
     private static void fillings() {
         Check.promise(16, "or a filling in one that is not the last.");
         Desk d = new Desk();
-        hearBehind(d, 2, Desk.part(32, 201, 3), 0, 4);
-        hearBehind(d, 2, Desk.part(32, 202, 1));
-        hearBehind(d, 3, Desk.part(0, 202, 1), Desk.part(32, 203, 2), 4);
-        hearBehind(d, -26, Desk.part(32, 202, 1), Desk.part(0, 202, 1));
-        hearBehind(d, -26, Desk.part(32, 202, 1), Desk.part(32, 202, 1));
-        hearBehind(d, -26, Desk.part(32, 203, 1), Desk.part(0, 203, 1));
+        hearBehind(d, 2, Wire.part(32, 201, 3), 0, 4);
+        hearBehind(d, 2, Wire.part(32, 202, 1));
+        hearBehind(d, 3, Wire.part(0, 202, 1), Wire.part(32, 203, 2), 4);
+        hearBehind(d, -26, Wire.part(32, 202, 1), Wire.part(0, 202, 1));
+        hearBehind(d, -26, Wire.part(32, 202, 1), Wire.part(32, 202, 1));
+        hearBehind(d, -26, Wire.part(32, 203, 1), Wire.part(0, 203, 1));
     }
 
     private static void theFirstFaultOfAReport() {
@@ -512,21 +514,33 @@ public final class EdgesOfReportsTest {
         d.hear().is(-25);
         d.alter(8, 0xA0);
         d.hear().is(2);
-        d.type(Desk.part(0, 202, 1), 4);
+        d.type(Wire.part(0, 202, 1), 4);
         d.hear().is(-26);
         d.alter(8, 0x80);
         d.hear().is(3);
         d.count(7).is(2);
     }
 
+    private static void partsOneBehindTheOther() {
+        Check.promise(16, "then of PARTS, one behind the other:");
+        Desk d = new Desk();
+        long[] parts = {0x00CA0000L, Wire.part(0, 202, 9), Wire.part(1, 203, 1), Wire.part(0, 204, 1)};
+        for (int k = 0; k < parts.length; k++) {
+            for (long behind : parts) {
+                hearBehind(d, -23 - k, parts[k], behind);
+            }
+            hearBehind(d, -23 - k, Wire.part(0, 202, 1), parts[k]);
+        }
+    }
+
     private static void faultsChangeNothing() {
         Check.promise(16, "-10 less the FAULT, nothing is changed then.");
-        long[] lastParts = {0x00CA0000L, Desk.part(0, 202, 2), Desk.part(1, 203, 1), Desk.part(0, 204, 1)};
+        long[] lastParts = {0x00CA0000L, Wire.part(0, 202, 2), Wire.part(1, 203, 1), Wire.part(0, 204, 1)};
         for (int k = 0; k < lastParts.length; k++) {
             Desk d = Desk.believed(9, 10);
             d.pass(30);
-            d.words(Desk.part(1, 200, 13), 9, -1, -1, -1, -1, -1, 0, -1, -1, -1, -1, -1,
-                    Desk.part(1, 203, 2), 9, lastParts[k]);
+            d.words(Wire.part(1, 200, 13), 9, -1, -1, -1, -1, -1, 0, -1, -1, -1, -1, -1,
+                    Wire.part(1, 203, 2), 9, lastParts[k]);
             String before = d.seen();
             d.hear().is(-23 - k);
             d.stays(before);
@@ -544,7 +558,7 @@ public final class EdgesOfReportsTest {
         d.hearWords(OWN_PART, 0).is(1);
         long[] words = words(75, OWN_PART);
         for (int w = 2; w < 75; w++) {
-            words[w] = Desk.part(0, 202, 1);
+            words[w] = Wire.part(0, 202, 1);
         }
         d.hearWords(words).is(74);
         d.count(0).is(300);
@@ -555,7 +569,7 @@ public final class EdgesOfReportsTest {
         Check.promise(17, "201: the SENDER, then BLOCKS.");
         Desk d = new Desk();
         d.report(77);
-        long[] words = words(74, Desk.part(12, 201, 74));
+        long[] words = words(74, Wire.part(12, 201, 74));
         words[1] = 5;
         words[68] = 77;
         words[69] = 0x09FFFFFFL;
@@ -563,7 +577,7 @@ public final class EdgesOfReportsTest {
         d.hearWords(words).is(1);
         d.heardIs(9, -1, 0, 0, 0, 6, 5);
         Check.promise(17, "200: the SENDER, a clock (8), a STAMP (4), PACKETS (4), BYTES (4), then BLOCKS as counted.");
-        words = words(73, Desk.part(11, 200, 73));
+        words = words(73, Wire.part(11, 200, 73));
         words[1] = 4;
         words[67] = 77;
         words[68] = 0x08000001L;
@@ -592,7 +606,7 @@ public final class EdgesOfReportsTest {
     private static void leavesTwiceInOnePart() {
         Check.promise(16, LEAVING);
         Desk d = Desk.believed(9, 10);
-        hearBehind(d, 2, Desk.part(2, 203, 3), 9, 9);
+        hearBehind(d, 2, Wire.part(2, 203, 3), 9, 9);
         d.count(3).is(2);
         d.eventIs(0, 7, 0, 0, 0);
         d.eventIs(1, 6, 0, 10, 0);
@@ -603,15 +617,25 @@ public final class EdgesOfReportsTest {
         Desk d = Desk.rated();
         d.believe(8, 10);
         d.believe(9, 10);
-        hearBehind(d, 2, Desk.part(0, 203, 2), 8);
+        hearBehind(d, 2, Wire.part(0, 203, 2), 8);
         d.sender(0, 16).is(0);
-        hearBehind(d, 2, Desk.part(1, 203, 3), 9, 8);
+        hearBehind(d, 2, Wire.part(1, 203, 3), 9, 8);
         d.sender(0, 16).is(0);
         d.sender(1, 16).is(1);
-        hearBehind(d, 2, Desk.part(2, 203, 3), 7, 8);
+        hearBehind(d, 2, Wire.part(2, 203, 3), 7, 8);
         d.sender(0, 16).is(1);
         d.count(1).is(2);
         d.count(3).is(4);
+    }
+
+    private static void theHeadOfAPartIsNoSender() {
+        Check.promise(16, "SENDERS that there are, in it as counted, LEAVE");
+        long head = Wire.part(1, 203, 2);
+        Desk d = Desk.believed((int) head, 10);
+        hearBehind(d, 2, head, 7);
+        d.sender(0, 16).is(0);
+        hearBehind(d, 2, head, head);
+        d.sender(0, 16).is(1);
     }
 
     private static void theMostThatLeave() {
@@ -620,7 +644,7 @@ public final class EdgesOfReportsTest {
         for (int s = 0; s < 6; s++) {
             d.believe(60 + s, 10);
         }
-        long[] words = words(33, Desk.part(31, 203, 33));
+        long[] words = words(33, Wire.part(31, 203, 33));
         for (int s = 0; s < 5; s++) {
             words[27 + s] = 65 - s;
         }
@@ -672,7 +696,7 @@ public final class EdgesOfReportsTest {
         d.heard(7).is(BAD);
         d.heard(LEAST).is(BAD);
         d.heard(MOST).is(BAD);
-        d.hearWords(Desk.part(1, 201, 8), 77, 0, 0x01000002L, 3, 4, 5, 6).is(1);
+        d.hearWords(Wire.part(1, 201, 8), 77, 0, 0x01000002L, 3, 4, 5, 6).is(1);
         d.heardIs(1, 2, 3, 4, 5, 6, 77);
         d.heard(-1).is(BAD);
         d.heard(7).is(BAD);
@@ -683,9 +707,9 @@ public final class EdgesOfReportsTest {
         Desk d = new Desk();
         d.hearWords(OWN_PART, 0).is(1);
         d.heardIs(0, 0, 0, 0, 0, 0, 0);
-        d.hearWords(Desk.part(1, 201, 8), 77, 1, 2, 3, 4, 5, 6).is(1);
+        d.hearWords(Wire.part(1, 201, 8), 77, 1, 2, 3, 4, 5, 6).is(1);
         d.heardIs(0, 0, 0, 0, 0, 0, 0);
-        d.hearWords(Desk.part(1, 201, 8), 77, 0, 2, 3, 4, 5, 6, Desk.part(0, 204, 1)).is(-26);
+        d.hearWords(Wire.part(1, 201, 8), 77, 0, 2, 3, 4, 5, 6, Wire.part(0, 204, 1)).is(-26);
         d.heardIs(0, 0, 0, 0, 0, 0, 0);
     }
 
@@ -695,7 +719,7 @@ public final class EdgesOfReportsTest {
         long[] words = {0, 0x007FFFFFL, 0x00800000L, 0xFF7FFFFFL, 0xFF800000L, 0xFFFFFFFFL, 0xFF000000L, 1};
         int[] lost = {0, 8388607, -8388608, 8388607, -8388608, -1, 0, 1};
         for (int k = 0; k < words.length; k++) {
-            d.hearWords(Desk.part(1, 201, 8), 77, 0, words[k], 3, 4, 5, 6).is(1);
+            d.hearWords(Wire.part(1, 201, 8), 77, 0, words[k], 3, 4, 5, 6).is(1);
             d.heard(1).is(lost[k]);
             d.heard(0).is(words[k] >> 24);
         }
@@ -705,7 +729,7 @@ public final class EdgesOfReportsTest {
         Check.promise(17, "2 the number of 4 bytes behind it, 3 JITTER, 4 LAST, 5 SINCE, 6 who told it (4 bytes).");
         Desk d = new Desk();
         for (int v : new int[] {-1, LEAST, MOST}) {
-            d.hearWords(Desk.part(1, 201, 8), v, 0, 0, v, v, v, v).is(1);
+            d.hearWords(Wire.part(1, 201, 8), v, 0, 0, v, v, v, v).is(1);
             d.heardIs(0, 0, v, v, v, v, v);
         }
     }
@@ -713,28 +737,28 @@ public final class EdgesOfReportsTest {
     private static void heardIsTheLast() {
         Check.promise(17, HEARD);
         Desk d = new Desk();
-        d.hearWords(Desk.part(2, 201, 14), 77, 0, 1, 1, 1, 1, 1, 0, 2, 2, 2, 2, 2).is(1);
+        d.hearWords(Wire.part(2, 201, 14), 77, 0, 1, 1, 1, 1, 1, 0, 2, 2, 2, 2, 2).is(1);
         d.heardIs(0, 2, 2, 2, 2, 2, 77);
-        d.hearWords(Desk.part(1, 201, 8), 77, 0, 3, 3, 3, 3, 3, Desk.part(1, 201, 8), 78, 0, 4, 4, 4, 4, 4).is(2);
+        d.hearWords(Wire.part(1, 201, 8), 77, 0, 3, 3, 3, 3, 3, Wire.part(1, 201, 8), 78, 0, 4, 4, 4, 4, 4).is(2);
         d.heardIs(0, 4, 4, 4, 4, 4, 78);
-        d.hearWords(Desk.part(2, 201, 14), 79, 0, 5, 5, 5, 5, 5, 1, 6, 6, 6, 6, 6).is(1);
+        d.hearWords(Wire.part(2, 201, 14), 79, 0, 5, 5, 5, 5, 5, 1, 6, 6, 6, 6, 6).is(1);
         d.heardIs(0, 5, 5, 5, 5, 5, 79);
-        d.hearWords(Desk.part(1, 201, 8), 80, 1, 7, 7, 7, 7, 7).is(1);
+        d.hearWords(Wire.part(1, 201, 8), 80, 1, 7, 7, 7, 7, 7).is(1);
         d.heardIs(0, 5, 5, 5, 5, 5, 79);
-        d.hearWords(Desk.part(1, 201, 8), 80, 0, 8, 8, 8, 8, 8, Desk.part(0, 202, 2)).is(-24);
+        d.hearWords(Wire.part(1, 201, 8), 80, 0, 8, 8, 8, 8, 8, Wire.part(0, 202, 2)).is(-24);
         d.heardIs(0, 5, 5, 5, 5, 5, 79);
     }
 
     private static void heardAsCounted() {
         Check.promise(17, HEARD);
         Desk d = new Desk();
-        d.hearWords(Desk.part(0, 201, 8), 77, 0, 1, 1, 1, 1, 1).is(1);
+        d.hearWords(Wire.part(0, 201, 8), 77, 0, 1, 1, 1, 1, 1).is(1);
         d.heardIs(0, 0, 0, 0, 0, 0, 0);
-        d.hearWords(Desk.part(1, 201, 14), 77, 0, 1, 1, 1, 1, 1, 0, 2, 2, 2, 2, 2).is(1);
+        d.hearWords(Wire.part(1, 201, 14), 77, 0, 1, 1, 1, 1, 1, 0, 2, 2, 2, 2, 2).is(1);
         d.heardIs(0, 1, 1, 1, 1, 1, 77);
         // BLOCKS stand in 200 and 201 alone.
-        hearBehind(d, 2, Desk.part(1, 202, 8), 78, 0, 3, 3, 3, 3, 3);
-        hearBehind(d, 2, Desk.part(1, 203, 8), 78, 0, 3, 3, 3, 3, 3);
+        hearBehind(d, 2, Wire.part(1, 202, 8), 78, 0, 3, 3, 3, 3, 3);
+        hearBehind(d, 2, Wire.part(1, 203, 8), 78, 0, 3, 3, 3, 3, 3);
         d.heardIs(0, 1, 1, 1, 1, 1, 77);
     }
 
@@ -744,7 +768,7 @@ public final class EdgesOfReportsTest {
             Desk d = new Desk();
             d.report(3);
             d.report(own);
-            d.hearWords(Desk.part(2, 201, 14), 77, own, 1, 1, 1, 1, 1, 3, 2, 2, 2, 2, 2).is(1);
+            d.hearWords(Wire.part(2, 201, 14), 77, own, 1, 1, 1, 1, 1, 3, 2, 2, 2, 2, 2).is(1);
             d.heardIs(0, 1, 1, 1, 1, 1, 77);
         }
         Desk e = Desk.believed(9, 10);

@@ -10,6 +10,9 @@ public final class ModelTest {
     private static final int[] EDGES = {Integer.MIN_VALUE, -2, -1, 0, 1, 2, 3, 7, 8, 9, 16, 17, 31, 32, 63, 64, 127, 128,
         255, 256, 299, 300, 5000, 5001, 10000, 10001, 200000, 200001, 100000000, Integer.MAX_VALUE};
 
+    /** How far a NUMBER may go on, or back, and still be GOOD, or WAIT, and one more. */
+    private static final int[] STEPS = {-101, -100, -99, -1, 0, 30, 31, 32, 33, 2998, 2999, 3000};
+
     private final Random random;
     private final String name;
     private final StreamDesk desk = new StreamDesk();
@@ -62,6 +65,7 @@ public final class ModelTest {
         for (int what = 0; what < 7; what++) {
             due("heard(" + what + ")", desk.heard(what), model.heard(what));
         }
+        Check.holds(name + " keeps to " + CALLS + " calls", calls <= CALLS);
     }
 
     private void pass(int ms) {
@@ -110,6 +114,7 @@ public final class ModelTest {
             case 4: return random.nextInt(5) == 0 ? random.nextInt(3010) : 1;
             case 5: return random.nextInt(5) == 0 ? random.nextInt(65536) : 1;
             case 6: return random.nextInt(5) == 0 ? -95 - random.nextInt(10) : 1;
+            case 7: return random.nextInt(5) == 0 ? STEPS[random.nextInt(STEPS.length)] : 1;
             default: return 1;
         }
     }

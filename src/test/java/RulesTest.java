@@ -3,6 +3,7 @@ import java.lang.reflect.Constructor;
 import java.lang.reflect.Field;
 import java.lang.reflect.Method;
 import java.lang.reflect.Modifier;
+import java.nio.file.DirectoryStream;
 import java.nio.file.Files;
 import java.nio.file.Path;
 import java.util.Arrays;
@@ -26,6 +27,7 @@ public final class RulesTest {
         fieldsOfTheFace();
         classesInside();
         wordsOfTheSource();
+        everyPromiseIsNamed();
         Check.end();
     }
 
@@ -85,6 +87,22 @@ public final class RulesTest {
             for (Method m : c.getDeclaredMethods()) {
                 Check.holds(m + " has at most seven parameters", m.getParameterCount() <= 7);
             }
+        }
+    }
+
+    /** Each promise has tests of its edges that name it. */
+    private static void everyPromiseIsNamed() throws IOException {
+        Set<Integer> named = new TreeSet<>();
+        try (DirectoryStream<Path> tests = Files.newDirectoryStream(Path.of("src/test/java"), "EdgesOf*Test.java")) {
+            for (Path test : tests) {
+                Matcher m = Pattern.compile("Check\\.promise\\((\\d+),").matcher(Files.readString(test));
+                while (m.find()) {
+                    named.add(Integer.valueOf(m.group(1)));
+                }
+            }
+        }
+        for (int promise = 1; promise <= Document.PROMISES; promise++) {
+            Check.holds("promise " + promise + " is named by a test of its edges", named.contains(promise));
         }
     }
 

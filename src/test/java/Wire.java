@@ -49,6 +49,7 @@ final class Wire {
         take(d, sender, number, 0);
     }
 
+    /** The head of a PART that has so many words in all. */
     static long part(int count, int sort, int words) {
         return (128L + count) << 24 | (long) sort << 16 | words - 1;
     }
