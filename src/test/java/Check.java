@@ -14,6 +14,11 @@ final class Check {
         heldAgainst = "promise " + number + ", \"" + sentence + "\": ";
     }
 
+    /** From here on answers are held against no sentence of their own. */
+    static void noPromise() {
+        heldAgainst = "";
+    }
+
     static void due(String call, long got, long want) {
         asked++;
         if (got != want) {

@@ -2,7 +2,7 @@
 public final class EdgesOfCountsTest {
     private static final int BAD = Desk.BAD, LEAST = Desk.LEAST, MOST = Desk.MOST;
     private static final String COUNTS = "0 bytes, 1 SENDERS, 2 NOW, 3 EVENTS in all, 4 DATA that were GOOD, 5 NOT YET,"
-        + " 6 with FAULTS (by take()), 7 REPORTS heard without FAULTS, 8 DELAY.";
+        + " 6 with FAULTS (by take()), 7 REPORTS heard without FAULTS, 8 DELAY. BAD.";
     private static final String DIGEST = "h is 17; h becomes 31 h and each of: count() 0 to 8, of each SENDER sender()"
         + " 0 to 16, next(), the bytes of THE PACKET; as longs that wrap.";
 

@@ -2,7 +2,7 @@
 public final class EdgesOfDataTest {
     private static final int BAD = Desk.BAD, LEAST = Desk.LEAST, MOST = Desk.MOST;
     private static final int P = 32, X = 16;
-    private static final String WITH_A_FAULT = "With one of FAULTS 1 to 5 all but 0 are 0.";
+    private static final String WITH_A_FAULT = "With one of FAULTS 1 to 5 all but 0 are 0. BAD.";
 
     public static void main(String[] args) {
         fewerThanTwelveBytes();
@@ -25,6 +25,8 @@ public final class EdgesOfDataTest {
         faultsOneToFiveTellNothing();
         faultsSixAndSevenTellAll();
         faultsChangeNothing();
+        goodOrNotYet();
+        takenWithoutBeingChanged();
         whatDataIsAsked();
         theLeastThatDataTells();
         theMostThatDataTells();
@@ -83,12 +85,13 @@ public final class EdgesOfDataTest {
     }
 
     private static void version() {
-        Check.promise(7, "bits 7 and 6 of its first byte are 2 (V)");
+        Check.promise(7, "A DATA packet: bits 7 and 6 of its first byte are 2 (V);");
+        sound(data(128, 12));
+        Check.promise(7, "2 V;");
         fault(2, data(0, 12));
         fault(2, data(64, 12));
         fault(2, data(192, 12));
         fault(2, data(127, 300));
-        sound(data(128, 12));
     }
 
     private static void bitsOfTheFirstByte() {
@@ -149,7 +152,7 @@ public final class EdgesOfDataTest {
     }
 
     private static void xBehindTheWords() {
-        Check.promise(7, "C words of 4 bytes; with X two bytes");
+        Check.promise(7, "the SENDER (4), C words of 4 bytes; with X two bytes");
         fault(3, data(128 + X + 15, 71));
         fault(4, data(128 + X + 15, 72));
         fault(4, data(128 + X + 15, 75));
@@ -191,7 +194,8 @@ public final class EdgesOfDataTest {
     }
 
     private static void theMostFilling() {
-        Check.promise(8, "with P the last byte tells how many bytes at the end, that one too, are none of it.");
+        Check.promise(8, "the PAYLOAD; with P the last byte tells how many bytes at the end, that one too, are none of"
+            + " it.");
         fault(5, data(128 + P, 266, 255));
         sound(data(128 + P, 267, 255));
         Desk d = Desk.rated();
@@ -349,8 +353,41 @@ public final class EdgesOfDataTest {
         }
     }
 
+    private static void goodOrNotYet() {
+        Check.promise(7, "THE PACKET, as DATA: 1 GOOD; 0 NOT YET;");
+        Desk d = Desk.rated();
+        d.bytes(data(128, 12));
+        d.take().is(0);
+        d.take().is(0);
+        d.alter(3, 2);
+        d.take().is(1);
+        d.take().is(1);
+        d.alter(2, 128);
+        d.take().is(0);
+        d.alter(3, 3);
+        d.take().is(1);
+        // What it is made of beside its head does not matter.
+        d.bytes(data(128 + P + X + 1, 30, 2));
+        d.alter(2, 128);
+        d.alter(3, 4);
+        d.take().is(1);
+        d.count(4).is(4);
+        d.count(5).is(3);
+        d.count(6).is(0);
+    }
+
+    private static void takenWithoutBeingChanged() {
+        Check.promise(7, "THE PACKET, as DATA: 1 GOOD; 0 NOT YET;");
+        Desk d = Desk.rated();
+        d.words(0x80000001L, 2, 3, 0x04050607L);
+        d.take().is(0);
+        d.alter(3, 2);
+        d.take().is(1);
+        d.packetIs(0x80000002L, 2, 3, 0x04050607L);
+    }
+
     private static void whatDataIsAsked() {
-        Check.promise(8, "Of THE PACKET as DATA: 0 its FAULT (0 none)");
+        Check.promise(8, "Of THE PACKET as DATA: 0 its FAULT (0 none), 1 M");
         Desk d = Desk.rated();
         d.data(-1).is(BAD);
         d.data(0).is(1);

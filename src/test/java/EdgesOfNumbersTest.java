@@ -14,11 +14,15 @@ public final class EdgesOfNumbersTest {
         sendersFromNoneToTheLastPlace();
         numberedAsTheyCameWithoutFaults();
         sendersWithBytesAtTheEnds();
+        eachSenderHasItsOwn();
+        allThatASenderTells();
         theFirstNumberAtItsEnds();
+        theFirstNumberIsLookedAtToo();
         theSecondOneIsBelieved();
         probationGoesRound();
         probationStartsAgain();
         setByTheOneThatIsBelieved();
+        noProbationTwice();
         aheadByTheFewestAndTheMost();
         aheadAcrossTheRound();
         twiceTheTopIsNoRound();
@@ -97,6 +101,62 @@ public final class EdgesOfNumbersTest {
         d.count(1).is(4);
     }
 
+    private static void eachSenderHasItsOwn() {
+        Check.promise(11, "Each has TOP, ROUNDS (0 or a multiple of 65536), BASE, ODD, WAIT, GOT, GOT BEFORE, DUE BEFORE,"
+            + " SET");
+        Desk d = Desk.rated();
+        d.believe(61, 10);
+        d.send(62, 65535, 0).is(0);
+        d.believe(63, 65535);
+        d.send(61, 12, 5).is(1);
+        d.send(63, 3, 0).is(1);
+        d.send(61, 20000, 0).is(0);
+        d.senderIs(0, 0, 61, 12, 0, 10, 20001, 0, 2, 5, 3, 1);
+        d.senderIs(1, 0, 62, 65535, 0, 65535, 65537, 1, 0, 0, 0, 0);
+        d.senderIs(2, 0, 63, 3, 65536, 65535, 65537, 0, 2, 0, 5, 3);
+        d.report(0).is(56);
+        d.send(62, 0, 0).is(1);
+        d.report(0).is(80);
+        // That of 62 is of its first BLOCK, the others are of none since.
+        d.wordIs(3, 1);
+        d.wordIs(9, 0);
+        d.wordIs(15, 3);
+        d.send(62, 2, 0).is(1);
+        d.send(63, 4, 0).is(1);
+        d.report(0).is(80);
+        d.wordIs(3, 1);
+        d.wordIs(9, 128L << 24 | 1);
+        d.wordIs(15, 3);
+    }
+
+    private static void allThatASenderTells() {
+        Check.promise(11, "Of SENDER s: 0 its 4 bytes, 1 TOP, 2 ROUNDS, 3 BASE, 4 ODD, 5 WAIT, 6 GOT, 7 JITTER, 8 DUE,"
+            + " 9 LOST (as in BLOCKS; 8 and 9 are 0 while it has WAIT), 10 PLAYED, 11 LOST by playing, 12 LATE, 13 FAR,"
+            + " 14 TWICE, 15 how many WAIT, 16 whether it has left (1, 0).");
+        Desk d = Desk.believed(77, 65530);
+        for (int k = 0; k < 2; k++) {
+            d.send(77, 65530, 0).is(1);
+        }
+        d.pass(100).is(1);
+        // 65531 to 65534 are LOST, then 65536 to 65540.
+        for (int q : new int[] {65535, 5, 6, 7}) {
+            d.send(77, q, 0).is(1);
+        }
+        for (int k = 0; k < 3; k++) {
+            d.send(77, 3, 0).is(1);
+        }
+        d.senderIs(0, 0, 77, 7, 65536, 65530, 65537, 0, 10, 67, 14, 4, 5, 9, 3, 0, 2, 0, 0);
+        d.leaves(77);
+        for (int q = 8; q <= 13; q++) {
+            d.send(77, q, 1000).is(1);
+        }
+        for (int k = 0; k < 4; k++) {
+            d.send(77, 40, 1000).is(1);
+        }
+        d.send(77, 20000, 0).is(0);
+        d.senderIs(0, 0, 77, 40, 65536, 65530, 20001, 0, 20, 596, 47, 27, 5, 9, 3, 4, 2, 6, 1);
+    }
+
     private static void theFirstNumberAtItsEnds() {
         Check.promise(7, "One that comes is SET by its NUMBER, then TOP is q - 1 (modulo 65536), WAIT 2.");
         for (int q : new int[] {0, 1, 65535}) {
@@ -104,6 +164,21 @@ public final class EdgesOfNumbersTest {
             d.send(9, q, 0).is(0);
             d.senderIs(0, TOP, q, 0, q, 65537, 1, 0);
         }
+    }
+
+    private static void theFirstNumberIsLookedAtToo() {
+        Check.promise(7, "Then, for it, too, and for each NUMBER q that comes, with u being q - TOP modulo 65536:");
+        Desk d = Desk.rated();
+        // TOP is one less than it at first, so that it is itself the first of the two that follow.
+        d.send(9, 700, 0).is(0);
+        d.sender(0, WAIT).is(1);
+        d.sender(0, TOP).is(700);
+        d.send(9, 701, 0).is(1);
+        // u is 2999 and then 3000, reckoned from the TOP that the one ahead left.
+        d.send(9, 3700, 0).is(1);
+        d.send(9, 6700, 0).is(0);
+        d.send(9, 6699, 0).is(1);
+        d.sender(0, TOP).is(6699);
     }
 
     private static void theSecondOneIsBelieved() {
@@ -155,6 +230,26 @@ public final class EdgesOfNumbersTest {
         d.sender(0, BASE).is(5);
         d.send(9, 41, 0).is(1);
         d.senderIs(0, TOP, 41, 0, 41, 65537, 0, 1, 0, 1, 0);
+    }
+
+    private static void noProbationTwice() {
+        Check.promise(7, "WAIT above 0: if q is TOP + 1 modulo 65536:");
+        Desk d = Desk.rated();
+        for (int q = 0; q < 12; q += 2) {
+            d.send(9, q, 0).is(0);
+            d.sender(0, WAIT).is(1);
+        }
+        d.send(9, 11, 0).is(1);
+        d.sender(0, WAIT).is(0);
+        Check.promise(7, "WAIT 0: u below 3000:");
+        d.send(9, 13, 0).is(1);
+        d.sender(0, WAIT).is(0);
+        // One by which it is SET anew has no probation either.
+        d.send(9, 30000, 0).is(0);
+        d.sender(0, WAIT).is(0);
+        d.send(9, 30001, 0).is(1);
+        d.sender(0, WAIT).is(0);
+        d.send(9, 30003, 0).is(1);
     }
 
     private static void aheadByTheFewestAndTheMost() {

@@ -15,11 +15,13 @@ public final class EdgesOfPlayingTest {
 
     public static void main(String[] args) {
         passAtItsEnds();
+        passRefuses();
         passToTheEndOfNow();
         passBeyondTheEndOfNow();
         passRefusedPlaysNothing();
         passCountsPlayedAndLost();
         passOfSeveralSenders();
+        playingOfEachSender();
         delayAtItsEnds();
         delayRefuses();
         beginsWithNoDelay();
@@ -28,6 +30,7 @@ public final class EdgesOfPlayingTest {
         beginsAtNow();
         nextOfNoSender();
         nextBeforeAnyBegins();
+        nextOfEachSender();
         nextGoesOnByOne();
         nextAcrossTheRound();
         timeOfNoSender();
@@ -60,6 +63,7 @@ public final class EdgesOfPlayingTest {
         sixtyFiveEvents();
         manyMoreEvents();
         everyKindOfEvent();
+        eventsTellTheSender();
         Check.end();
     }
 
@@ -72,11 +76,17 @@ public final class EdgesOfPlayingTest {
         d.count(2).is(1);
         d.pass(10000).is(0);
         d.count(2).is(10001);
+    }
+
+    private static void passRefuses() {
+        Check.promise(9, "NOW is so much more (0 to 10000): what is PLAYED and LOST by that. BAD;");
+        Desk d = new Desk();
+        d.pass(10000).is(0);
         d.pass(-1).is(BAD);
         d.pass(10001).is(BAD);
         d.pass(LEAST).is(BAD);
         d.pass(MOST).is(BAD);
-        d.count(2).is(10001);
+        d.count(2).is(10000);
     }
 
     private static void passToTheEndOfNow() {
@@ -147,6 +157,36 @@ public final class EdgesOfPlayingTest {
         d.eventIs(0, PLAYED, 5, 3, 100);
     }
 
+    private static void playingOfEachSender() {
+        Check.promise(9, "PLAYING, of each SENDER:");
+        Desk d = Desk.rated();
+        d.believe(61, 10);
+        d.pass(30);
+        d.delay(20);
+        d.believe(62, 10);
+        // What the one has waiting, its NEXT and its TIMES are not the other's.
+        d.send(61, 12, 0).is(1);
+        d.send(62, 11, 5).is(1);
+        d.time(0, 12).is(100);
+        d.time(0, 11).is(NONE);
+        d.time(1, 11).is(55);
+        d.time(1, 12).is(NONE);
+        d.pass(20).is(1);
+        d.next(0).is(10);
+        d.next(1).is(11);
+        d.send(62, 43, 0).is(1);
+        d.eventIs(0, FAR, 1, 43, 50);
+        d.pass(5).is(1);
+        d.send(62, 44, 0).is(1);
+        d.eventIs(0, BEGINS, 1, 44, 55);
+        d.sender(0, WAITING).is(2);
+        d.sender(1, WAITING).is(1);
+        // 10, 11 (LOST) and 12 of the one, 44 of the other.
+        d.pass(45).is(4);
+        d.senderIs(0, PLAYED_COUNT, 2, 1, 0, 0, 0, 0);
+        d.senderIs(1, PLAYED_COUNT, 3, 0, 0, 1, 0, 0);
+    }
+
     private static void delayAtItsEnds() {
         Check.promise(10, "DELAY: what it was.");
         Desk d = new Desk();
@@ -158,7 +198,7 @@ public final class EdgesOfPlayingTest {
     }
 
     private static void delayRefuses() {
-        Check.promise(10, "the DELAY (0 to 5000 milliseconds, as it is then)");
+        Check.promise(10, "DELAY: what it was. BAD.");
         Desk d = new Desk();
         d.delay(-1).is(BAD);
         d.delay(5001).is(BAD);
@@ -238,6 +278,21 @@ public final class EdgesOfPlayingTest {
         d.next(5).is(41);
         d.next(4).is(0);
         d.next(6).is(0);
+    }
+
+    private static void nextOfEachSender() {
+        Check.promise(12, "NEXT of a SENDER;");
+        Desk d = Desk.rated();
+        for (int s = 0; s < 6; s++) {
+            d.believe(60 + s, 100 * s);
+        }
+        for (int s = 0; s < 6; s++) {
+            d.next(s).is(100 * s);
+        }
+        d.pass(100).is(6);
+        for (int s = 0; s < 6; s++) {
+            d.next(s).is(100 * s + 1);
+        }
     }
 
     private static void nextGoesOnByOne() {
@@ -716,5 +771,20 @@ public final class EdgesOfPlayingTest {
         }
         d.event(8, 0).is(NONE);
         d.senderIs(1, PLAYED_COUNT, 2, 1, 1, 1, 1, 0, 1);
+    }
+
+    private static void eventsTellTheSender() {
+        Check.promise(14, "6 BEGINS, 7 a SENDER LEAVES), the SENDER, the LONG NUMBER");
+        Desk d = Desk.rated();
+        for (int s = 0; s < 6; s++) {
+            d.believe(60 - s, 10 + s);
+        }
+        for (int s = 0; s < 6; s++) {
+            d.eventIs(5 - s, BEGINS, s, 10 + s, 0);
+        }
+        d.send(55, 14, 0).is(1);
+        d.eventIs(0, LATE, 5, 14, 0);
+        d.leaves(58);
+        d.eventIs(0, LEAVES, 2, 0, 0);
     }
 }

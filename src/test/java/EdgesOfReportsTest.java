@@ -4,7 +4,8 @@ public final class EdgesOfReportsTest {
     private static final long OWN_PART = 0x80C90001L;
     private static final String REPORTED = "THE PACKET is a REPORT of one PART 201 with the own SENDER's bytes, and a BLOCK"
         + " of each SENDER without WAIT that has not left, by their numbers: how many bytes.";
-    private static final String FRACTION = "0, if e is 0 or l is not above 0; else 256 l by e (cut; its lowest 8 bits).";
+    private static final String FRACTION = "The FRACTION: with e DUE less DUE BEFORE, l e less (GOT less GOT BEFORE): 0, if"
+        + " e is 0 or l is not above 0; else 256 l by e (cut; its lowest 8 bits).";
     private static final String LOST = "LOST (3, as a number with a sign, cut to -8388608 .. 8388607)";
     private static final String LAST_AND_SINCE = "LAST is the middle 4 bytes of the clock of the SENDER's latest report,"
         + " SINCE (NOW less NOW then) times 65536 by 1000 (cut); both 0 without one.";
@@ -21,6 +22,7 @@ public final class EdgesOfReportsTest {
         ownBytesAtTheirEnds();
         reportOfTheMostBlocks();
         reportLeavesOut();
+        aWholeBlock();
         topAndRoundsOfABlock();
         fractionOfNoneDue();
         fractionOfNoneLost();
@@ -34,6 +36,8 @@ public final class EdgesOfReportsTest {
         lastIsTheMiddleOfTheLatest();
         clockOfOneWithWait();
         clockOfNoSender();
+        aRowOfParts();
+        theHeadOfAPart();
         fewerThanEightBytes();
         wholeWords();
         theFirstPart();
@@ -131,6 +135,22 @@ public final class EdgesOfReportsTest {
         d.leaves(13);
         d.report(7).is(8);
         d.wordIs(0, OWN_PART);
+    }
+
+    private static void aWholeBlock() {
+        Check.promise(15, "A BLOCK of a SENDER (24 bytes): the SENDER (4), the FRACTION (1), LOST (3, as a number with a"
+            + " sign, cut to -8388608 .. 8388607), ROUNDS and TOP together (4), JITTER by 16 (rounded down; 4), LAST and"
+            + " SINCE (4 each).");
+        Desk d = Desk.rated();
+        d.believe(8, 10);
+        d.believe(0xA1A2A3A4, 65000);
+        d.send(0xA1A2A3A4, 0x0203, 0x00123450).is(1);
+        hearClock(d, 0xA1A2A3A4, 0xB1B2B3B4B5B6B7B8L);
+        d.pass(9000);
+        // 1052 are due and 2 came: 256 times 1050 by 1052 is 255.51.
+        d.report(0x11121314).is(56);
+        d.packetIs(0x82C9000DL, 0x11121314L, 8, 0, 10, 0, 0, 0,
+            0xA1A2A3A4L, 0xFF00041AL, 0x00010203L, 0x00012345L, 0xB3B4B5B6L, 589824);
     }
 
     private static void topAndRoundsOfABlock() {
@@ -333,6 +353,33 @@ public final class EdgesOfReportsTest {
         d.report(0).is(32);
         d.wordIs(6, 0);
         d.wordIs(7, 0);
+    }
+
+    private static void aRowOfParts() {
+        Check.promise(16, "A REPORT is a row of PARTS, of whole words.");
+        Desk d = new Desk();
+        d.hearWords(Wire.part(0, 201, 4), 0, 1, 2).is(1);
+        d.hearWords(Wire.part(0, 201, 2), 0, Wire.part(0, 202, 2), 2).is(2);
+        d.hearWords(Wire.part(0, 201, 2), 0, Wire.part(0, 202, 1), Wire.part(0, 202, 1)).is(3);
+        d.hearWords(Wire.part(0, 201, 2), 0, Wire.part(0, 200, 7), 0, 0, 0, 0, 0, 0, Wire.part(0, 201, 2), 0).is(3);
+        // The row goes to the end of THE PACKET: a word that is left over is a PART that is none.
+        d.hearWords(Wire.part(0, 201, 2), 0, 0).is(-23);
+    }
+
+    private static void theHeadOfAPart() {
+        Check.promise(16, "PART: a byte 128 and a count (5 bits), its sort, its length in words less 1 (2 bytes). Sorts:");
+        for (int count = 0; count < 32; count++) {
+            hearBehind(new Desk(), 2, words(count + 1, Wire.part(count, 203, count + 1)));
+        }
+        for (int count = 1; count < 32; count++) {
+            hearBehind(new Desk(), -25, words(count, Wire.part(count, 203, count)));
+        }
+        Desk d = new Desk();
+        // Both bytes of the length are looked at.
+        d.hearWords(0x80C90101L, 0).is(-24);
+        d.hearWords(0x80C90100L, 0).is(-24);
+        d.hearWords(0x80C90001L, 0).is(1);
+        d.hearWords(0x80C90000L, 0).is(-25);
     }
 
     private static void fewerThanEightBytes() {

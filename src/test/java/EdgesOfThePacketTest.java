@@ -168,6 +168,10 @@ public final class EdgesOfThePacketTest {
         d.type(9, -1).is(BAD);
         d.type(9, MOST).is(BAD);
         d.count(0).is(300);
+        Check.promise(2, "how many it has. BAD; FULL.");
+        d.type(9, 8).is(FULL);
+        d.type(9, 1).is(FULL);
+        d.type(9, 0).is(300);
     }
 
     private static void clearOfEmptyAndFull() {
@@ -223,7 +227,7 @@ public final class EdgesOfThePacketTest {
     }
 
     private static void alterRefuses() {
-        Check.promise(4, REFUSALS);
+        Check.promise(4, "what it was. BAD.");
         Desk d = new Desk();
         d.bytes(1, 2);
         String before = d.seen();
@@ -234,6 +238,7 @@ public final class EdgesOfThePacketTest {
         d.alter(LEAST, 5).is(BAD);
         d.alter(MOST, 5).is(BAD);
         d.alter(2, 256).is(BAD);
+        Check.promise(4, REFUSALS);
         d.stays(before);
     }
 
@@ -296,7 +301,7 @@ public final class EdgesOfThePacketTest {
     }
 
     private static void rateRefuses() {
-        Check.promise(6, REFUSALS);
+        Check.promise(6, "what it was. BAD.");
         Desk d = new Desk();
         d.rate(5, 9);
         d.rate(5, 200001).is(BAD);
@@ -304,6 +309,7 @@ public final class EdgesOfThePacketTest {
         d.rate(5, LEAST).is(BAD);
         d.rate(5, MOST).is(BAD);
         d.rate(128, 200001).is(BAD);
+        Check.promise(6, REFUSALS);
         d.rate(5, 9).is(9);
     }
 }

@@ -319,6 +319,13 @@ public final class ReportsTest {
         d.report(1);
         d.hear();
         heard("of 1", d, 0, 1, 12, 0, 0, 0, 1);
+        // A choice that README.md tells of: own is looked at when hear() runs, not when heard() does.
+        d.report(9);
+        heard("of 1 still", d, 0, 1, 12, 0, 0, 0, 1);
+        hear("none of 9 in it", d, 1, Wire.part(1, 201, 8), 77, 1, 2, 3, 4, 5, 6);
+        heard("and still", d, 0, 1, 12, 0, 0, 0, 1);
+        d.report(1);
+        heard("none that came while 9 was the own one", d, 0, 1, 12, 0, 0, 0, 1);
     }
 
     private static void countAndRefusals() {

@@ -14,46 +14,58 @@ import java.util.regex.Pattern;
 
 /** The public face of the class, and those rules of the language that can be seen from outside. */
 public final class RulesTest {
-    private static final String[] FACE = {
-        "int alter(int, int)", "int at(int)", "int clear()", "int count(int)", "int data(int)", "int delay(int)",
-        "int hear()", "int heard(int)", "int pass(int)", "int rate(int, int)", "int report(int)",
-        "int sender(int, int)", "int take()", "int type(long, int)", "long digest()", "long event(int, int)",
-        "long next(int)", "long time(int, long)"};
+    private static final int MOST_LINES = 60;
+    private static final Set<String> LIBRARY = Set.of("Math.abs", "Math.max", "Math.min", "Math.floorDiv", "Math.floorMod");
+    private static final String CONSTANTS = "public static final int NONE = -1, BAD = -2, FULL = -3";
     private static final String[] FORBIDDEN = {"throw", "throws", "try", "catch", "synchronized", "assert", "import",
         "package", "->", "::", "@", "Exact", "MIN_VALUE", "MAX_VALUE", "System.out"};
 
     public static void main(String[] args) throws IOException {
-        methodsOfTheFace();
+        theFaceOfTheDocument();
+        methodsBehindTheFace();
         fieldsOfTheFace();
         classesInside();
         wordsOfTheSource();
+        libraryOfTheSource();
+        lengthOfMethods();
         everyPromiseIsNamed();
         Check.end();
     }
 
-    private static void methodsOfTheFace() {
+    private static String parameters(Class<?>[] types) {
+        String listed = Arrays.toString(types);
+        return "(" + listed.substring(1, listed.length() - 1) + ")";
+    }
+
+    private static void theFaceOfTheDocument() {
         Set<String> open = new TreeSet<>();
-        Set<String> names = new TreeSet<>();
         for (Method m : StreamDesk.class.getDeclaredMethods()) {
-            if (Modifier.isPublic(m.getModifiers())) {
-                names.add(m.getName());
-                String parameters = Arrays.toString(m.getParameterTypes());
-                open.add(m.getReturnType() + " " + m.getName() + "(" + parameters.substring(1, parameters.length() - 1) + ")");
+            if (!Modifier.isPrivate(m.getModifiers())) {
+                String head = Modifier.toString(m.getModifiers()) + " " + m.getReturnType() + " " + m.getName();
+                open.add(head + parameters(m.getParameterTypes()));
             }
         }
-        Check.holds("the methods are " + open, open.equals(new TreeSet<>(Arrays.asList(FACE))));
+        for (Constructor<?> c : StreamDesk.class.getDeclaredConstructors()) {
+            open.add(Modifier.toString(c.getModifiers()) + " " + c.getName() + parameters(c.getParameterTypes()));
+        }
+        open.add(CONSTANTS);
+        Check.holds("the face is " + open, open.equals(new TreeSet<>(Document.face())));
+        Check.due("NONE", StreamDesk.NONE, -1);
+        Check.due("BAD", StreamDesk.BAD, -2);
+        Check.due("FULL", StreamDesk.FULL, -3);
+        Check.due("modifiers of the class", StreamDesk.class.getModifiers(), Modifier.PUBLIC | Modifier.FINAL);
+    }
+
+    private static void methodsBehindTheFace() {
+        Set<String> names = new TreeSet<>();
+        for (String member : Document.face()) {
+            names.add(member.replaceAll("\\(.*", "").replaceAll(".* ", ""));
+        }
         for (Method m : StreamDesk.class.getDeclaredMethods()) {
-            if (!Modifier.isPublic(m.getModifiers())) {
-                Check.holds(m + " is private", Modifier.isPrivate(m.getModifiers()) || m.isSynthetic());
+            if (Modifier.isPrivate(m.getModifiers())) {
                 Check.holds(m + " has a name of its own", !names.contains(m.getName()));
             }
         }
-        Constructor<?>[] constructors = StreamDesk.class.getDeclaredConstructors();
-        Check.due("constructors", constructors.length, 1);
-        Check.due("the constructor's parameters", constructors[0].getParameterCount(), 0);
-        Check.holds("the constructor is public", Modifier.isPublic(constructors[0].getModifiers()));
-        Check.holds("the class is public", Modifier.isPublic(StreamDesk.class.getModifiers()));
-        Check.holds("the class is final", Modifier.isFinal(StreamDesk.class.getModifiers()));
     }
 
     private static void fieldsOfTheFace() {
@@ -106,9 +118,37 @@ public final class RulesTest {
         }
     }
 
-    private static void wordsOfTheSource() throws IOException {
+    private static String code() throws IOException {
         String source = Files.readString(Path.of("src/main/java/StreamDesk.java"));
-        String code = source.replaceAll("(?s)/\\*.*?\\*/", "").replaceAll("//[^\n]*", "");
+        return source.replaceAll("(?s)/\\*.*?\\*/", "").replaceAll("//[^\n]*", "");
+    }
+
+    /** What is called on a class is one of its own, or stands in the list of the library. */
+    private static void libraryOfTheSource() throws IOException {
+        Set<String> own = new TreeSet<>();
+        for (Class<?> c : StreamDesk.class.getDeclaredClasses()) {
+            own.add(c.getSimpleName());
+        }
+        Matcher m = Pattern.compile("\\b([A-Z][A-Za-z]*)\\.([a-z]\\w*)").matcher(code());
+        while (m.find()) {
+            Check.holds(m.group() + " may be used", own.contains(m.group(1)) || LIBRARY.contains(m.group()));
+        }
+    }
+
+    /** A method ends with the brace that stands as far in as its head. */
+    private static void lengthOfMethods() throws IOException {
+        Matcher m = Pattern.compile("(?m)^((?: {4}){1,2})[\\w\\[\\] ]+\\([^)]*\\) \\{$(?s:.*?)^\\1\\}$").matcher(code());
+        int methods = 0;
+        while (m.find()) {
+            String head = m.group().lines().findFirst().orElse("").strip();
+            Check.holds(head + " is short", m.group().lines().count() <= MOST_LINES);
+            methods++;
+        }
+        Check.holds("methods are found", methods > Document.PROMISES);
+    }
+
+    private static void wordsOfTheSource() throws IOException {
+        String code = code();
         for (String word : FORBIDDEN) {
             boolean isName = Character.isLetter(word.charAt(0));
             Matcher m = Pattern.compile(isName ? "\\b" + Pattern.quote(word) + "\\b" : Pattern.quote(word)).matcher(code);
